@@ -677,7 +677,9 @@ public final class CurveFalls {
             long left = without(without(Math.abs(number), 2), 3);
             // No DISC that comes of curve() and twist() has two primes above a million.
             for (int q = 5; q < 1000000 && (long) q * q <= left; q += 6) {
-                left = without(without(left, q), q + 2);
+                if (left % q == 0 || left % (q + 2) == 0) {
+                    left = without(without(left, q), q + 2);
+                }
             }
             if (left > 1) {
                 add(left);
