@@ -157,10 +157,22 @@ public final class PromisesTest {
         due("curve -1", x.change(-1, 0, 0, 0), -1);
         due("curve behind all", x.change(7, 0, 0, 0), -1);
         due("a row that is full", full().change(0, 0, 0, 0), -1);
-        CurveFalls wide = with(0, 0, 0, 99, 0);
-        due("r -99 with a6 within", with(0, 9, 0, 99, 0).change(0, -45, 0, 0), 1);
-        due("r 46", wide.change(0, 46, 0, 0), -1);
+        changeByGreatR();
         changeBounds();
+    }
+
+    // Changes after which r 99, -99 leave all within bounds, as 100, -100 would.
+    private static void changeByGreatR() {
+        CurveFalls up = with(0, 0, 0, 0, 1);
+        due("s 10", up.change(0, 0, 10, 0), 1);
+        due("r 100", up.change(1, 100, 0, 0), -1);
+        due("r 99", up.change(1, 99, 0, 0), 2);
+        dueCoefficients("r 99", up, 2, 20, 197, 1980, 9603, -9800);
+        CurveFalls down = with(9, 9, 9, 0, 0);
+        due("r 46", down.change(0, 46, 0, 99), 1);
+        due("r -100", down.change(1, -100, 0, 0), -1);
+        due("r -99", down.change(1, -99, 0, 0), 2);
+        due("r -99", down.of(2, 1), -150);
     }
 
     private static void changeBounds() {
@@ -223,6 +235,7 @@ public final class PromisesTest {
 
     private static void scaleBounds() {
         CurveFalls x = with(0, -1, 1, 0, 0);
+        due("by 10, with all within bounds", x.scale(0, 10, true), -1);
         due("by 5", x.scale(0, 5, true), 1);
         due("by 5 again", x.scale(1, 5, true), 2);
         due("DISC near its bound", x.of(2, 11), -655651092529296875L);
@@ -233,9 +246,16 @@ public final class PromisesTest {
         due("DISC above, a coefficient too", x.scale(3, 9, true), -1);
         due("shrunk again", x.scale(2, 5, false), 4);
         dueCoefficients("shrunk again", x, 4, 0, -25, 125, 0, 0);
+        CurveFalls most = with(0, 0, 0, -25, 0);
+        most.change(0, -4, 0, 0);
+        most.change(1, 0, 2, 6);
+        most.scale(2, 2, true);
+        due("DISC 10^18", most.scale(3, 5, true), 4);
+        due("DISC 10^18", most.of(4, 11), 1000000000000000000L);
+        due("and its LEAST", most.leastOf(4, 3), -25);
         due("a6 too great", with(0, 0, 0, 0, 99).scale(0, 4, true), -1);
-        due("a6 97", with(0, 0, 0, 0, 24).scale(0, 4, true), 1);
-        due("a6 100352", with(0, 0, 0, 0, 25).scale(0, 4, true), -1);
+        due("a6 98304", with(0, 0, 0, 0, 24).scale(0, 4, true), 1);
+        due("a6 102400", with(0, 0, 0, 0, 25).scale(0, 4, true), -1);
         due("a4 99 by 5", with(0, 0, 0, 99, 0).scale(0, 5, true), 1);
         due("a4 99 by 6", with(0, 0, 0, 99, 0).scale(0, 6, true), -1);
         due("a4 -77 by 6", with(0, 0, 0, -77, 0).scale(0, 6, true), 1);
@@ -310,6 +330,23 @@ public final class PromisesTest {
         due("greatest DISC, within", great.twist(0, -3), 1);
         due("DISC of a TWIST", great.of(1, 11), 729 * 656123328L);
         due("it has none itself", great.twist(1, -3), -1);
+        CurveFalls edge = with(0, -1, 0, -83, -88);
+        edge.twist(0, -2);
+        due("DISC 2000000000", edge.of(1, 11), 2000000000);
+        due("has a TWIST", edge.twist(1, -2), 2);
+        dueCoefficients("which is the first", edge, 2, 0, -1, 0, -83, -88);
+        long[][] conductors = {{1, 1600}, {-1, 1600}, {2, 400}, {-2, 200}, {3, 14400}, {-3, 14400}, {5, 1600}, {-5, 1600},
+            {6, 1800}, {-6, 3600}, {7, 78400}, {-7, 78400}, {10, 400}, {-10, 200}};
+        for (long[] row : conductors) {
+            due("twisted by " + row[0], edge.twisted(1, (int) row[0]), row[1]);
+        }
+        due("best: -2 before -10", edge.best(1), -2);
+        CurveFalls above = with(1, 1, 1, -21, -59);
+        above.twist(0, -1);
+        due("DISC -2000003072", above.of(1, 11), -2000003072);
+        due("has no TWIST", above.twist(1, -1), -1);
+        due("has no TWIST", above.twisted(1, -1), 0);
+        due("has no best", above.best(1), 0);
     }
 
     private static void promise7Drop() {
