@@ -505,6 +505,8 @@ public final class PromisesTest {
             due("curve", x.prime(curve, 0), -1);
             due("curve", x.prime(curve, -1), -1);
         }
+        due("2 and 3 alone", with(0, 0, 0, 0, 1).prime(0, -1), 2);
+        due("none behind 2", with(0, 0, 0, -1, 0).prime(0, 1), -1);
         due("a great prime", with(7, 7, 7, 90, 11).prime(0, 1), 7215167);
         CurveFalls grown = with(0, 0, 1, -1, 0);
         due("one prime", grown.prime(0, -1), 1);
