@@ -203,10 +203,8 @@ public final class CurveFalls {
     }
 
     public long twisted(int curve, int d) {
-        if (!there(curve)) {
-            return 0;
-        }
-        if (d != 1 && (!isTwister(d) || !hasTwists(curve))) {
+        // By 1 too: a CURVE of which there is no TWIST is one of the others, as for best().
+        if (!there(curve) || !hasTwists(curve) || (d != 1 && !isTwister(d))) {
             return 0;
         }
         return twistedConductor(curve, d);

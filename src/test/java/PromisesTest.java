@@ -346,6 +346,7 @@ public final class PromisesTest {
         due("DISC -2000003072", above.of(1, 11), -2000003072);
         due("has no TWIST", above.twist(1, -1), -1);
         due("has no TWIST", above.twisted(1, -1), 0);
+        due("has no TWIST, by 1 too", above.twisted(1, 1), 0);
         due("has no best", above.best(1), 0);
     }
 
@@ -688,7 +689,11 @@ public final class PromisesTest {
         CurveFalls none = with(0, 0, 1, -1, 0);
         int k = none.twist(0, -5);
         due("without TWIST", none.twisted(k, -5), 0);
-        due("without TWIST, itself", none.twisted(k, 1), 14800);
+        due("without TWIST, by 1 too", none.twisted(k, 1), 0);
+        due("which has a CONDUCTOR", none.conductor(k), 14800);
+        due("changed, by 1", none.twisted(none.change(k, 1, 0, 0), 1), 0);
+        none.scale(0, 9, true);
+        due("only DISC of LEAST is asked for", none.twisted(none.count(0) - 1, 1), 37);
         for (int curve : new int[] {LOW, -1, 2, HIGH}) {
             due("twisted of none", x.twisted(curve, 1), 0);
             due("twisted of none", x.twisted(curve, 2), 0);

@@ -145,7 +145,7 @@ public final class Reference {
     }
 
     public int best(int curve) {
-        if (!there(curve) || !mayTwist(curve, 2)) {
+        if (!there(curve) || !hasTwists(curve)) {
             return 0;
         }
         int best = 1;
@@ -160,13 +160,10 @@ public final class Reference {
     }
 
     public long twisted(int curve, int d) {
-        if (!there(curve)) {
-            return 0;
-        }
         if (d == 1) {
-            return conductor(curve);
+            return there(curve) && hasTwists(curve) ? conductor(curve) : 0;
         }
-        return mayTwist(curve, d) ? conductorOf(twistOf(curve, d)) : 0;
+        return there(curve) && mayTwist(curve, d) ? conductorOf(twistOf(curve, d)) : 0;
     }
 
     public int small(int curve) {
@@ -381,7 +378,11 @@ public final class Reference {
         for (int q = 2; q <= 3; q++) {
             allowed &= d % (q * q) != 0;
         }
-        return allowed && disc(leastForAll(curves.get(curve))).abs().compareTo(TWIST_BOUND) <= 0;
+        return allowed && hasTwists(curve);
+    }
+
+    private boolean hasTwists(int curve) {
+        return disc(leastForAll(curves.get(curve))).abs().compareTo(TWIST_BOUND) <= 0;
     }
 
     private BigInteger[] twistOf(int curve, int d) {
