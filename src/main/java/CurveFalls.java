@@ -780,9 +780,10 @@ public final class CurveFalls {
                 return;
             }
             moveForCubic();
-            long b = part(work.a2, 1);
-            long c = part(work.a4, 2);
-            long d = part(work.a6, 3);
+            // Modulo p, as only that counts: of a TWIST of great coefficients the products would wrap.
+            long b = Numbers.rest(part(work.a2, 1), p);
+            long c = Numbers.rest(part(work.a4, 2), p);
+            long d = Numbers.rest(part(work.a6, 3), p);
             if (Numbers.rest(18 * b * c * d + b * b * c * c - 4 * b * b * b * d - 4 * c * c * c - 27 * d * d, p) != 0) {
                 tell(5, times - 4, 5, 1 + cubicRoots(b, c, d));
                 return;

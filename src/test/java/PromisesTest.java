@@ -1,16 +1,5 @@
-import java.util.NoSuchElementException;
-
 /** Promise by promise: ordinary inputs, the edges that the document names, wrong inputs. */
-public final class PromisesTest {
-    private static final int LOW = Integer.MIN_VALUE;
-    private static final int HIGH = Integer.MAX_VALUE;
-    private static int wrong = 0;
-    private static int checked = 0;
-
-    private interface Call {
-        long answer();
-    }
-
+public final class PromisesTest extends Checks {
     public static void main(String[] args) {
         promise1NewObject();
         promise2Curve();
@@ -34,53 +23,7 @@ public final class PromisesTest {
         promise20Point();
         promise21Minus();
         promise22Count();
-        System.out.println(checked + " answers looked at, " + wrong + " wrong");
-        if (wrong != 0) {
-            System.exit(1);
-        }
-    }
-
-    private static void due(String call, long got, long want) {
-        checked++;
-        if (got != want) {
-            wrong++;
-            System.out.println(call + " answered " + got + ", due is " + want);
-        }
-    }
-
-    private static void due(String call, boolean got, boolean want) {
-        due(call, got ? 1 : 0, want ? 1 : 0);
-    }
-
-    private static void dueNoSuchElement(String call, Call made) {
-        checked++;
-        try {
-            long got = made.answer();
-            wrong++;
-            System.out.println(call + " answered " + got + ", due is NoSuchElementException");
-        } catch (NoSuchElementException due) {
-            return;
-        }
-    }
-
-    private static void dueCoefficients(String call, CurveFalls x, int curve, long... want) {
-        for (int what = 0; what < want.length; what++) {
-            due(call + ": of " + what, x.of(curve, what), want[what]);
-        }
-    }
-
-    private static CurveFalls with(int a1, int a2, int a3, int a4, int a6) {
-        CurveFalls x = new CurveFalls();
-        due("curve", x.curve(a1, a2, a3, a4, a6), 0);
-        return x;
-    }
-
-    private static CurveFalls full() {
-        CurveFalls x = new CurveFalls();
-        for (int i = 0; i < 16; i++) {
-            due("curve of a full row", x.curve(0, 0, 1, -1, 0), i);
-        }
-        return x;
+        finish();
     }
 
     private static void promise1NewObject() {
